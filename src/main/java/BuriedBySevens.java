@@ -304,8 +304,8 @@ public final class BuriedBySevens {
     }
 
     public int drops() {
-        int chosen = everybody();
         int all = everybody();
+        int chosen = all;
         int fewest = fitsBy(all);
         for (int some = 0; some < all; some++) {
             if (Integer.bitCount(some) < Integer.bitCount(chosen) && fitsBy(some) == fewest) {
@@ -329,8 +329,8 @@ public final class BuriedBySevens {
 
     public int team() {
         lookAtTwos();
-        int chosen = everybody();
         int all = everybody();
+        int chosen = all;
         int due = twosBy(all);
         for (int some = 0; some < all; some++) {
             if (Integer.bitCount(some) < Integer.bitCount(chosen) && twosBy(some) == due) {
@@ -368,7 +368,7 @@ public final class BuriedBySevens {
             if (now.shareOf[c] == 0) {
                 continue;
             }
-            now.mixSome(now.shareOf, ~(1 << c), another);
+            now.mixSome(now.shareOf, ~(1 << c), 0, another);
             int telling = howManyTellApart(glass, another);
             if (which == NONE || telling < fewest) {
                 which = c;
@@ -475,7 +475,7 @@ public final class BuriedBySevens {
             return refuse(STATE);
         }
         lookAtGlass();
-        now.mixSome(numbers, EVERY, another);
+        now.mixSome(numbers, EVERY, 0, another);
         int who = 0;
         int marks = 0;
         for (int t = 0; t < now.tasters; t++) {
@@ -665,7 +665,7 @@ public final class BuriedBySevens {
             return refuse(NOBODY);
         }
         for (int more = 0; more <= TASTE_TOP; more++) {
-            now.mixWithWater(more, another);
+            now.mixSome(now.shareOf, EVERY, more, another);
             if (!tellsApart(taster, another, water)) {
                 return more;
             }
@@ -998,13 +998,13 @@ public final class BuriedBySevens {
     }
 
     private void lookAtGlass() {
-        now.mixSome(now.shareOf, EVERY, glass);
+        now.mixSome(now.shareOf, EVERY, 0, glass);
     }
 
     private void mixWithShare(int cask, int v) {
         int was = now.shareOf[cask];
         now.shareOf[cask] = v;
-        now.mixSome(now.shareOf, EVERY, another);
+        now.mixSome(now.shareOf, EVERY, 0, another);
         now.shareOf[cask] = was;
     }
 
@@ -1013,7 +1013,7 @@ public final class BuriedBySevens {
         int was = now.kindOf[cask];
         now.kindOf[cask] = EMPTY;
         now.brew();
-        now.mixSome(now.shareOf, EVERY, another);
+        now.mixSome(now.shareOf, EVERY, 0, another);
         now.kindOf[cask] = was;
         now.brew();
     }
@@ -1070,7 +1070,7 @@ public final class BuriedBySevens {
     }
 
     private int tellFromWater(int casks) {
-        now.mixSome(now.shareOf, casks, another);
+        now.mixSome(now.shareOf, casks, 0, another);
         return howManyTellApart(another, water);
     }
 
@@ -1347,27 +1347,16 @@ public final class BuriedBySevens {
             }
         }
 
-        /** What a glass of such shares of some casks (bits) tastes of. */
-        void mixSome(int[] shares, int some, int[] into) {
+        /** What a glass of such shares of some casks (bits), and of water, tastes of. */
+        void mixSome(int[] shares, int some, int water, int[] into) {
             for (int m = 0; m < MARKS; m++) {
                 int sum = 0;
-                int parts = 0;
+                int parts = water;
                 for (int c = 0; c < casks; c++) {
                     if (has(some, c)) {
                         sum += shares[c] * tastesOf[c][m];
                         parts += shares[c];
                     }
-                }
-                into[m] = parts == 0 ? 0 : sum / parts;
-            }
-        }
-
-        void mixWithWater(int more, int[] into) {
-            int parts = allShares() + more;
-            for (int m = 0; m < MARKS; m++) {
-                int sum = 0;
-                for (int c = 0; c < casks; c++) {
-                    sum += shareOf[c] * tastesOf[c][m];
                 }
                 into[m] = parts == 0 ? 0 : sum / parts;
             }
@@ -1445,6 +1434,9 @@ public final class BuriedBySevens {
         }
 
         int shareOf(int number, int cask) {
+            if (cask < 0 || cask >= casks) {
+                return 0;
+            }
             return number / POWERS[casks - 1 - cask] % 3;
         }
 

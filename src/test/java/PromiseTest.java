@@ -1319,6 +1319,14 @@ public final class PromiseTest {
     due(x.kinds(4), -1, "no such taster");
     due(x.kinds(-1), -1, "no taster below 0");
     refused(-1, 2);
+    start(41);
+    x.comes(0, 0, 5100);
+    x.comes(5, 0, 5200);
+    x.comes(3, 7, 900);
+    x.joins(3, 0, 0);
+    // 15 3, 15 4, 14 68: the last two are unlike, though 15 times 64 and 4 is 14 times 64 and 68
+    due(x.kinds(0), 11, "great tastes are told from one another");
+    due(x.kinds(0), 11, "as often as one asks");
   }
 
   private static void substitutes() {
