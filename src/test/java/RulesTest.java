@@ -26,7 +26,7 @@ public final class RulesTest {
     words(code);
     lengths(source);
     endsForAnyArguments();
-    nothingIsMadeByCalls();
+    anObjectIsSmall();
     System.out.println(wrong == 0 ? "the rules are kept" : wrong + " rules are not kept");
     if (wrong != 0) {
       System.exit(1);
@@ -164,7 +164,7 @@ public final class RulesTest {
   }
 
   /** All rows are made with the object, few enough for hundreds of objects in one room. */
-  private static void nothingIsMadeByCalls() throws Exception {
+  private static void anObjectIsSmall() throws Exception {
     long[] made = {0, 0};
     count(new BuriedBySevens(), made);
     due(made[0] <= 100, made[0] + " objects and arrays in one object");
