@@ -699,10 +699,10 @@ public final class BuriedBySevens {
         int bits = 0;
         now.shareOf[cask] = 0;
         for (int c = 0; c < now.casks; c++) {
-            if (c == cask || now.shareOf[c] + its > DIGIT) {
+            if (c == cask) {
                 continue;
             }
-            mixWithShare(c, now.shareOf[c] + its);
+            mixWithShare(c, Math.min(now.shareOf[c] + its, DIGIT));
             if (howManyTellApart(glass, another) == 0) {
                 bits |= 1 << c;
             }

@@ -945,9 +945,11 @@ public final class ModelTest {
       int bits = 0;
       for (int o = 0; o < casks.size(); o++) {
         int[] s = shares();
-        if (o == c || s[o] + s[c] > 9) { continue; }
-        s[o] += s[c];
-        s[c] = 0;
+        if (o == c) { continue; }
+        while (s[c] > 0) {
+          s[c]--;
+          if (s[o] < 9) { s[o]++; }
+        }
         if (tellers(glass(), glassOf(casks, s, 0)) == 0) { bits += 1 << o; }
       }
       return bits;

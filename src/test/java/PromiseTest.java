@@ -1342,8 +1342,8 @@ public final class PromiseTest {
     x.share(2, 8);
     due(x.substitutes(0), 6, "9 of it, 0 as well; 22 by 9 is 2, told 0 too");
     x.share(2, 9);
-    due(x.substitutes(0), 2, "of cask 2 there is no more than 9");
-    due(x.substitutes(2), 0, "nor of cask 0");
+    due(x.substitutes(0), 6, "9 and 1 of cask 2 are 9; 22 by 10 is 2, told 0 too");
+    due(x.substitutes(2), 1, "1 and 9 of cask 0 are 9, told 0 too; of cask 1 20");
     x.share(0, 0);
     due(x.substitutes(2), 1, "9 of cask 0 are told 0 too");
     due(x.cask(2, 6), 9, "nothing is changed by asking");
@@ -1368,6 +1368,31 @@ public final class PromiseTest {
     x.share(2, 8);
     // 3 3 9 of 1 8 8 are 5 (99 by 17); 9 of cask 3 as well
     due(x.substitutes(0), 8, "9 of cask 3 taste the same");
+    start(42);
+    x.comes(0, 0, 0);
+    x.share(0, 7);
+    x.comes(0, 0, 0);
+    x.comes(0, 0, 0);
+    x.comes(0, 0, 0);
+    x.share(3, 3);
+    due(x.substitutes(0), 14, "what would be more than 9 leaves nobody out");
+    due(x.substitutes(3), 7, "nor the other way");
+    start(42);
+    // 27 27 0 of 7 3 9 are 14 (270 by 19); 9 of cask 1 are 13 (243 by 18), 9 of cask 2 are 6 (81 by 12)
+    x.comes(0, 0, 9000);
+    x.comes(0, 0, 9000);
+    x.comes(4, 0, 0);
+    x.share(0, 7);
+    x.share(1, 3);
+    x.share(2, 9);
+    x.joins(1, 9, 0);
+    due(x.substitutes(0), 2, "10 is told of 13 too");
+    due(x.substitutes(1), 5, "9 of cask 0 as well; 9 of cask 2 are 11 (189 by 16)");
+    x.joins(1, 0, 0);
+    due(x.substitutes(0), 0, "with 10 of cask 1 it would be 14, but 9 are the most");
+    x.share(1, 2);
+    // 243 by 18 are 13, with 7 and 2 there are just 9
+    due(x.substitutes(0), 2, "just 9");
   }
 
   private static void exact() {
