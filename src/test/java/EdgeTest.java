@@ -1,8 +1,13 @@
+import java.util.ArrayList;
+import java.util.HashSet;
+import java.util.List;
+import java.util.Set;
+
 /**
  * The edges that the document names, a sentence after the other: cellars with nothing in them and
  * full ones, an empty glass, nobody to taste, texts and rows that are full, all that can be taken
- * back and one more, the least and the greatest numbers, draws that wrap around. All counted out
- * by hand. What is refused, and in which order, RefusalTest asks.
+ * back and one more, the least and the greatest numbers, draws that wrap around. Counted out by
+ * hand, but for draws and kinds of glasses. What is refused, and in which order, RefusalTest asks.
  */
 public final class EdgeTest {
   private static final int PROMISES = 57;
@@ -26,6 +31,7 @@ public final class EdgeTest {
     sevenAlikeReckoned();
     sevenAlikeBluntly();
     sevenComeIn();
+    kindsOfAllGlasses();
     sixInOrder();
     greatestTastes();
     toldOnTheEdges();
@@ -34,6 +40,7 @@ public final class EdgeTest {
     faultsOnTheEdges();
     fullRow();
     rowOnTheEdges();
+    rowAfterAFullOne();
     mostTakenBack();
     tenUnlikeTakenBack();
     whatLeavesNone();
@@ -587,6 +594,49 @@ public final class EdgeTest {
     due(27, x.adds(6, 1), 1, "none is too many");
   }
 
+  /** As many unlike tellings as a full cellar gives: too many for hands, so all glasses are mixed once more. */
+  private static void kindsOfAllGlasses() {
+    x = new BuriedBySevens();
+    int[] marks = {9000, 900, 90, 9, 5500, 3355, 7777};
+    for (int c = 0; c < 7; c++) {
+      x.comes(3, c, marks[c]);
+    }
+    int[] tongues = {15, 15, 7, 10, 1, 8};
+    int[] blunt = {0, 1, 0, 2, 0, 9};
+    for (int t = 0; t < 6; t++) {
+      x.joins(tongues[t], blunt[t], 0);
+    }
+    int[][] tastes = new int[7][4];
+    for (int c = 0; c < 7; c++) {
+      for (int m = 0; m < 4; m++) {
+        tastes[c][m] = x.taste(c, m);
+      }
+    }
+    for (int t = 0; t < 6; t++) {
+      Set<List<Integer>> all = new HashSet<>();
+      for (int glass = 1; glass < 2187; glass++) {
+        all.add(tellingOf(glass, tastes, tongues[t], blunt[t] + 1));
+      }
+      due(41, x.kinds(t), all.size(), "taster " + t + " of 2186 glasses");
+    }
+  }
+
+  private static List<Integer> tellingOf(int glass, int[][] tastes, int tongue, int step) {
+    List<Integer> told = new ArrayList<>();
+    for (int m = 0; m < 4; m++) {
+      int sum = 0;
+      int parts = 0;
+      int rest = glass;
+      for (int c = 0; c < 7; c++) {
+        sum += rest % 3 * tastes[c][m];
+        parts += rest % 3;
+        rest /= 3;
+      }
+      told.add((tongue >> m) % 2 == 0 ? 0 : sum / parts / step * step);
+    }
+    return told;
+  }
+
   private static void sixInOrder() {
     x = new BuriedBySevens();
     for (int c = 0; c < 6; c++) {
@@ -818,6 +868,24 @@ public final class EdgeTest {
     due(52, x.judge(0), 0, "the glass is 12");
   }
 
+  /** What stood in a row that was longer is no more there. */
+  private static void rowAfterAFullOne() {
+    x = new BuriedBySevens();
+    twoCasks();
+    x.joins(7, 0, 0);
+    rowOfSame(12, 99);
+    rowAll(1, 1);
+    due(29, x.two(0), 0, "the same shares");
+    due(29, x.two(1), 0, "the same shares");
+    rowAll(12, 6, 15, 0);
+    due(30, x.impostor(0, 0), -9, "all true");
+    due(30, x.impostor(0, 1), -9, "none is named");
+    due(45, x.closest(-1), 9, "1 1 is 12 6 15 9");
+    rowAll(12, 3);
+    due(52, x.judge(0), -9, "the glass and cask 0");
+    due(52, x.judge(0), -9, "nothing more is said");
+  }
+
   // ---------------------------------------------------------------- what is taken back, the image
 
   private static void mostTakenBack() {
@@ -1028,6 +1096,8 @@ public final class EdgeTest {
     due(40, x.diluted(0), -9, "120 by 105 is more than 0");
     due(31, x.nearest(), -9, "one cask");
     x.kind(0, 4, 0);
+    due(35, x.range(0), 0, "of nothing too");
+    due(41, x.kinds(0), 1, "0 alone");
     due(32, x.strongest(), 0, "something is in, though it tastes of nothing");
     x.share(0, 0);
     due(32, x.strongest(), -9, "nothing is in");
